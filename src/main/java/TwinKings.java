@@ -335,8 +335,7 @@ public final class TwinKings {
             above *= laws.openIn256(d, deed, c);
             below *= 256;
         }
-        long shared = sharedPowerOfTwo(above, below);
-        return what == 0 ? above / shared : below / shared;
+        return inLowestTerms(above, below, what);
     }
 
     public int year(int seed, int n, int what) {
@@ -685,17 +684,15 @@ public final class TwinKings {
         return closed;
     }
 
-    /** What both can be divided by; below is a power of two, so nothing else can be shared. Never 0. */
-    private static long sharedPowerOfTwo(long above, long below) {
-        long shared = 1;
-        for (int k = 0; k < 62; k++) {
-            long next = shared * 2;
-            if (above % next != 0 || below % next != 0) {
-                break;
-            }
-            shared = next;
+    /** Below is a power of two, so halves are all that the two can share. */
+    private static long inLowestTerms(long above, long below, int what) {
+        long a = above;
+        long b = below;
+        for (int k = 0; k < 62 && (a & 1) == 0 && (b & 1) == 0; k++) {
+            a >>= 1;
+            b >>= 1;
         }
-        return shared;
+        return what == 0 ? a : b;
     }
 
     /** A bounded list of rows of up to three numbers. */
