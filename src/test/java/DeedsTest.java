@@ -63,6 +63,8 @@ public final class DeedsTest {
         due("3: wipe of nothing", x.wipe(), 0);
         due("3: nothing allowed", x.allowed(6), 0);
         due("3: room again", x.type('1'), 1);
+        x.type('f');
+        due("3: nothing is left of what was allowed", x.deed(0, 1), 0);
         TwinKings broken = Check.kings("xyz");
         due("3: a text with a fault", broken.wipe(), 3);
         due("3: no fault left", broken.fault(), NONE);
@@ -220,6 +222,7 @@ public final class DeedsTest {
         due("11: deed below", x.does(0, -1, 1), BAD);
         due("11: deed above", x.does(0, 8, 1), BAD);
         due("11: no days", x.does(0, 0, 0), BAD);
+        due("11: no days, later", x.does(5, 0, 0), BAD);
         due("11: too many days", x.does(0, 0, 6), BAD);
         due("11: beyond day 39", x.does(36, 0, 5), BAD);
         due("11: days that would wrap", x.does(39, 0, Integer.MAX_VALUE), BAD);

@@ -14,6 +14,7 @@ public final class DigestTest {
         x.set(0, 2);
         x.set(1, 1);
         digestIs("another rule and court", x);
+        digestIs("days 2 to 5 alone are free", fourFreeDays());
         x.lose(0);
         long before = x.digest();
         x.sheet(0, 0, -1);
@@ -37,6 +38,17 @@ public final class DigestTest {
         x.task(4, 3);
         x.seen(1, 1);
         x.book(4, 1, 1);
+    }
+
+    /** Here most of what is asked from day 2 on would be told otherwise from day 1 or 3 on. */
+    private static TwinKings fourFreeDays() {
+        TwinKings x = Check.kings("3a;2f");
+        x.sick(1, 3);
+        x.sick(1, 5);
+        x.leap(6);
+        x.task(0, 4);
+        x.task(1, 1);
+        return x;
     }
 
     private static void take(long... parts) {

@@ -97,6 +97,10 @@ public final class PlansTest {
         TwinKings x = Check.kings("1a;1f");
         due("26: no tasks", x.plan(0, NONE), NONE);
         due("26: no tasks, first", x.plan(0, 0), NONE);
+        due("26: no tasks, later", x.plan(5, NONE), NONE);
+        x.task(0, 2);
+        due("26: one task", x.plan(0, NONE), 13);
+        x.back(4);
         // In turn: deed 0 on 0, deed 0 on 2, deed 1 on 3; by 0, 2, 1: 0, 1, 2.
         x.task(0, 1);
         x.task(0, 1);

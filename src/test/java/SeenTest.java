@@ -179,6 +179,7 @@ public final class SeenTest {
         due("34: deed below", x.chance(0, 0, -1, 1, 0), LONG_BAD);
         due("34: no such deed", x.chance(0, 0, 1, 1, 0), LONG_BAD);
         due("34: no days", x.chance(0, 0, 0, 0, 0), LONG_BAD);
+        due("34: no days, later", x.chance(0, 5, 0, 0, 0), LONG_BAD);
         due("34: too many days", x.chance(0, 0, 0, 7, 0), LONG_BAD);
         due("34: beyond day 39", x.chance(0, 35, 0, 6, 0), LONG_BAD);
         due("34: what below", x.chance(0, 0, 0, 1, -1), LONG_BAD);
@@ -212,6 +213,8 @@ public final class SeenTest {
         due("35: n above", x.year(1, 41, 0), BAD);
         due("35: what below", x.year(1, 1, -1), BAD);
         due("35: what above", x.year(1, 1, 2), BAD);
+        TwinKings one = Check.kings("2f");
+        due("35: one deed", one.year(1, 3, 1), 4);
         TwinKings none = new TwinKings();
         due("35: no lots", none.year(Integer.MIN_VALUE, 40, 0), 0);
         due("35: no lots, no fines", none.year(-1, 40, 1), 0);

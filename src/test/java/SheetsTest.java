@@ -41,6 +41,9 @@ public final class SheetsTest {
         due("36: refused, it stays", x.get(3, 2, 59), 7);
         due("36: a new row", x.sheet(3, 2, 60), 60);
         due("36: of zeros", x.get(3, 2, 59), 0);
+        x.put(3, 2, 0, 7);
+        x.sheet(3, 2, 1);
+        due("36: of zeros from the first on", x.get(3, 2, 0), 0);
         due("36: of another form", x.sheet(3, 1, 2), 2);
         due("36: of another form", x.put(3, 1, 1, 1), 1);
         due("36: shorter", x.put(3, 1, 2, 1), INDEX);
