@@ -241,7 +241,11 @@ public final class TwinKings {
             return BAD;
         }
         planner.prepare(taskRows, laws());
-        return i == NONE ? planner.endInTurn(day) : planner.startInTurn(day, i);
+        int end = planner.layInTurn(day);
+        if (end == NONE || i == NONE) {
+            return end;
+        }
+        return planner.startInTurn(i);
     }
 
     public int plan(int day, int i) {
@@ -1070,6 +1074,7 @@ public final class TwinKings {
     private static final class Planner {
         private final long[] starts = new long[MOST_TASKS];
         private final int[] lengths = new int[MOST_TASKS];
+        private final int[] turnStarts = new int[MOST_TASKS];
         private final int[] row = new int[MOST_TASKS];
         private final int[] bestRow = new int[MOST_TASKS];
         private int number;
@@ -1083,23 +1088,22 @@ public final class TwinKings {
             }
         }
 
-        /** A task begins on its day even if one behind it never can. */
-        int startInTurn(int day, int i) {
+        /** One task that never can begin leaves no end, so the starts hold only if all were laid. */
+        int layInTurn(int day) {
             int at = day;
             for (int k = 0; k < number; k++) {
                 int start = firstDay(starts[k], at);
-                if (start == NONE || k == i) {
-                    return start;
+                if (start == NONE) {
+                    return NONE;
                 }
+                turnStarts[k] = start;
                 at = start + lengths[k];
             }
-            return NONE;
+            return number == 0 ? NONE : at - 1;
         }
 
-        int endInTurn(int day) {
-            int last = number - 1;
-            int start = startInTurn(day, last);
-            return last < 0 || start == NONE ? NONE : start + lengths[last] - 1;
+        int startInTurn(int i) {
+            return within(i, 0, number - 1) ? turnStarts[i] : NONE;
         }
 
         int findBestRow(int day) {

@@ -15,6 +15,7 @@ public final class DigestTest {
         x.set(1, 1);
         digestIs("another rule and court", x);
         digestIs("days 2 to 5 alone are free", fourFreeDays());
+        digestIs("tasks without a finish", noFinish());
         x.lose(0);
         long before = x.digest();
         x.sheet(0, 0, -1);
@@ -48,6 +49,14 @@ public final class DigestTest {
         x.leap(6);
         x.task(0, 4);
         x.task(1, 1);
+        return x;
+    }
+
+    private static TwinKings noFinish() {
+        TwinKings x = Check.kings("3a");
+        x.task(0, 1);
+        x.task(1, 1);
+        CHECK.due("43: finish(2, 0) as promise 25 says", x.finish(2, 0), NONE);
         return x;
     }
 

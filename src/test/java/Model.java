@@ -412,11 +412,11 @@ final class Model {
         for (int k = 0; k < tasks.size(); k++) {
             row.add(k);
         }
-        List<Integer> days = begins(day, row);
-        if (i == NONE) {
-            return end(day, row);
+        int end = end(day, row);
+        if (i == NONE || end == NONE) {
+            return end;
         }
-        return i < days.size() ? days.get(i) : NONE;
+        return i < row.size() ? begins(day, row).get(i) : NONE;
     }
 
     int plan(int day, int i) {

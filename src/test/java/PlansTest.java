@@ -8,6 +8,7 @@ public final class PlansTest {
         cheapest();
         finish();
         finishThatFails();
+        finishOfADeedThatComes();
         plan();
         planOfLikeOnes();
         words();
@@ -82,15 +83,52 @@ public final class PlansTest {
         due("25: on the last day, begins", x.finish(39, 0), 39);
     }
 
+    /** Of a row of tasks that has no finish there is no start either, whichever task is asked for. */
+    private static void noFinish(String why, TwinKings x, int day) {
+        for (int i = NONE; i <= 5; i++) {
+            due("25: " + why + ", i = " + i, x.finish(day, i), NONE);
+        }
+    }
+
     private static void finishThatFails() {
-        TwinKings x = Check.kings("1a;1f");
+        for (int place = 0; place < 6; place++) {
+            TwinKings x = Check.kings("1a;1f");
+            for (int k = 0; k < 6; k++) {
+                x.task(k == place ? 2 : 0, 1);
+            }
+            noFinish("task " + place + " is of no deed", x, 0);
+        }
+        TwinKings late = Check.kings("1a;1f");
+        late.task(0, 1);
+        late.task(0, 1);
+        due("25: just in time, the first", late.finish(36, 0), 36);
+        due("25: just in time, the second", late.finish(36, 1), 38);
+        noFinish("no day is left for the second", late, 37);
+        noFinish("nor for the first", late, 39);
+        late.task(0, 4);
+        noFinish("the last is allowed on no four days", late, 0);
+        late.back(4);
+        due("25: without it the first begins", late.finish(0, 0), 0);
+        due("25: and the second", late.finish(0, 1), 2);
+        TwinKings none = new TwinKings();
+        none.task(0, 1);
+        noFinish("there are no deeds", none, 0);
+    }
+
+    private static void finishOfADeedThatComes() {
+        TwinKings x = Check.kings("3a");
         x.task(0, 1);
-        x.task(2, 1);
-        x.task(0, 1);
-        due("25: a deed that there is not never is allowed", x.finish(0, NONE), NONE);
-        due("25: it does not begin", x.finish(0, 1), NONE);
-        due("25: nor does one behind it", x.finish(0, 2), NONE);
-        due("25: one ahead of it does", x.finish(0, 0), 0);
+        x.task(1, 1);
+        noFinish("the second's deed is not there yet", x, 0);
+        x.type(';');
+        x.type('1');
+        noFinish("a fault: no deeds", x, 0);
+        x.type('f');
+        due("25: it is there: first", x.finish(0, 0), 0);
+        due("25: it is there: second", x.finish(0, 1), 1);
+        due("25: it is there: no third", x.finish(0, 2), NONE);
+        x.undo();
+        noFinish("a fault again", x, 0);
     }
 
     private static void plan() {
