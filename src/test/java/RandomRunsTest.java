@@ -10,7 +10,9 @@ import java.util.Random;
  */
 public final class RandomRunsTest {
     private static final int RUNS = 260;
+    private static final int TASK_RUNS = 120;
     private static final Check CHECK = new Check();
+    private static final int[] finishes = new int[2];
 
     public static void main(String[] args) throws ReflectiveOperationException {
         List<Method> face = new ArrayList<>();
@@ -23,6 +25,10 @@ public final class RandomRunsTest {
         for (int seed = 0; seed < RUNS; seed++) {
             run(seed, face);
         }
+        for (int seed = 0; seed < TASK_RUNS; seed++) {
+            runOfTasks(seed);
+        }
+        CHECK.due("25: enough rows of tasks had a finish, enough had none", mixedEnough() ? 1 : 0, 1);
         CHECK.end("RandomRunsTest");
     }
 
@@ -46,6 +52,53 @@ public final class RandomRunsTest {
             call(seed, k, method, arguments(random, method), kings, model);
         }
         CHECK.due("run " + seed + ": digest()", kings.digest(), model.digest());
+    }
+
+    /**
+     * Calls drawn alone seldom come to tasks that can be finished: here most of them are short and of deeds that
+     * there are, and now and then one is of a deed that there is not or begins too late.
+     */
+    private static void runOfTasks(int seed) {
+        Random random = new Random(7000 + seed);
+        TwinKings kings = new TwinKings();
+        Model model = new Model();
+        typeDeeds(random, kings, model);
+        CHECK.due("set", kings.set(0, seed % 3), model.set(0, seed % 3));
+        int number = Math.max(1, kings.count(0));
+        for (int k = random.nextInt(10); k > 0; k--) {
+            int day = random.nextInt(12);
+            int deed = random.nextInt(number);
+            CHECK.due("edict", kings.edict(day, deed), model.edict(day, deed));
+        }
+        for (int k = random.nextInt(7); k > 0; k--) {
+            int king = random.nextInt(2);
+            int day = random.nextInt(40);
+            CHECK.due("sick", kings.sick(king, day), model.sick(king, day));
+        }
+        for (int k = 1 + random.nextInt(6); k > 0; k--) {
+            int deed = random.nextInt(30) == 0 ? number % 8 : random.nextInt(number);
+            int days = random.nextInt(3) == 0 ? 1 + random.nextInt(5) : 1;
+            CHECK.due("task", kings.task(deed, days), model.task(deed, days));
+        }
+        for (int k = 0; k < 5; k++) {
+            askForTasks("tasks " + seed, k == 0 ? 0 : random.nextInt(40), k < 2, kings, model);
+        }
+    }
+
+    private static void askForTasks(String run, int day, boolean asksPlan, TwinKings kings, Model model) {
+        finishes[model.finish(day, Model.NONE) == Model.NONE ? 0 : 1]++;
+        for (int i = Model.NONE; i < 6; i++) {
+            String asked = "(" + day + ", " + i + ")";
+            CHECK.due(run + ": finish" + asked, kings.finish(day, i), model.finish(day, i));
+            if (asksPlan) {
+                CHECK.due(run + ": plan" + asked, kings.plan(day, i), model.plan(day, i));
+            }
+        }
+    }
+
+    /** So that a change of what is drawn cannot quietly leave one side untried. */
+    private static boolean mixedEnough() {
+        return finishes[0] >= TASK_RUNS && finishes[1] >= TASK_RUNS;
     }
 
     private static void typeDeeds(Random random, TwinKings kings, Model model) {
