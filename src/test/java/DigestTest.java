@@ -16,6 +16,11 @@ public final class DigestTest {
         digestIs("another rule and court", x);
         digestIs("days 2 to 5 alone are free", fourFreeDays());
         digestIs("tasks without a finish", noFinish());
+        digestIs("days 1 to 4 alone are free", daysOneToFour());
+        digestIs("a word that counts", wordThatCounts());
+        digestIs("a few of all", Realm.few());
+        digestIs("as much of all as there may be", Realm.full());
+        digestIs("full, with a fault", Realm.faulty());
         x.lose(0);
         long before = x.digest();
         x.sheet(0, 0, -1);
@@ -49,6 +54,28 @@ public final class DigestTest {
         x.leap(6);
         x.task(0, 4);
         x.task(1, 1);
+        return x;
+    }
+
+    /** Four days from day 1 on are free of fines, and no other four; from day 5 on two come sooner than three. */
+    private static TwinKings daysOneToFour() {
+        TwinKings x = Check.kings("3a;2f");
+        x.sick(0, 2);
+        x.sick(0, 4);
+        x.sick(1, 5);
+        x.task(1, 1);
+        return x;
+    }
+
+    /** Both rule behind days 4 and 5, so what the elder says on day 4 counts there, but not on day 7. */
+    private static TwinKings wordThatCounts() {
+        TwinKings x = Check.kings("1a;1a;1f;1a");
+        x.set(0, 1);
+        x.leap(6);
+        x.sick(0, 2);
+        x.task(0, 1);
+        CHECK.due("43: words(4, 2, 1)", x.words(4, 2, 1), 2);
+        CHECK.due("43: words(4, 3, 1)", x.words(4, 3, 1), 0);
         return x;
     }
 
