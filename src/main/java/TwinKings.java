@@ -9,7 +9,8 @@ public final class TwinKings {
     private static final int DAYS = 40, MOST_DEEDS = 8, NO_WORD = 8, MOST_TASKS = 6;
     private static final int SHEETS = 4, MOST_ITEMS = 60;
     private static final int NULL = 1, INDEX = 2, CAST = 3, STORE = 4, SIZE = 5;
-    private static final long ALL_DAYS = (1L << DAYS) - 1;
+    private static final int LEAST_INT = 1 << 31;
+    private static final long LEAST_LONG = 1L << 63, ALL_DAYS = (1L << DAYS) - 1;
     private static final int[] DIGEST_DAYS = {0, 1, 6, 20, 39};
 
     private final DeedText text = new DeedText();
@@ -330,7 +331,7 @@ public final class TwinKings {
     public long chance(int c, int day, int deed, int days, int what) {
         if (!within(c, 0, 16) || !isDay(day) || !text.has(deed) || !within(days, 1, 6)
                 || !isDay(day + days - 1) || !within(what, 0, 1)) {
-            return Long.MIN_VALUE - BAD;
+            return LEAST_LONG - BAD;
         }
         Laws laws = laws();
         long above = 1;
@@ -397,12 +398,12 @@ public final class TwinKings {
 
     public int get(int s, int form, int i) {
         if (!isSheet(s) || !isForm(form)) {
-            return Integer.MIN_VALUE;
+            return LEAST_INT;
         }
         int fails = itemFinding(sheets[s], form, i);
         if (fails != 0) {
             found(fails);
-            return Integer.MIN_VALUE;
+            return LEAST_INT;
         }
         return sheets[s].item(i);
     }

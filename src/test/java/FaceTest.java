@@ -6,6 +6,8 @@ import java.nio.file.Files;
 import java.nio.file.Path;
 import java.util.Arrays;
 import java.util.TreeSet;
+import java.util.regex.Matcher;
+import java.util.regex.Pattern;
 
 /** The face is the document's and no more, and the program keeps to those rules of LANGUAGE.md that a look can tell. */
 public final class FaceTest {
@@ -27,6 +29,7 @@ public final class FaceTest {
         fields();
         insideNames();
         wordsOfTheSource();
+        library();
         CHECK.end("FaceTest");
     }
 
@@ -89,9 +92,17 @@ public final class FaceTest {
         }
     }
 
+    private static String source() throws IOException {
+        return Files.readString(Path.of("src/main/java/TwinKings.java"));
+    }
+
+    private static String code() throws IOException {
+        return source().replaceAll("(?s)/\\*.*?\\*/", " ").replaceAll("//[^\n]*", " ");
+    }
+
     private static void wordsOfTheSource() throws IOException {
-        String source = Files.readString(Path.of("src/main/java/TwinKings.java"));
-        String code = source.replaceAll("(?s)/\\*.*?\\*/", " ").replaceAll("//[^\n]*", " ");
+        String source = source();
+        String code = code();
         String[] ruledOut = {"throw", "throws", "try", "catch", "synchronized", "assert", "import", "package",
             "instanceof", "Exact", "Object", "Random", "Thread", "nanoTime", "currentTimeMillis"};
         for (String word : ruledOut) {
@@ -99,5 +110,16 @@ public final class FaceTest {
         }
         CHECK.holds("no lambda, no method reference", !code.contains("->") && !code.contains("::"));
         CHECK.holds("signs are 1 to 127", source.chars().allMatch(sign -> sign < 128));
+    }
+
+    /** Rule 4: functions of the library are listed there, its constants (as the least int) are not. */
+    private static void library() throws IOException {
+        TreeSet<String> used = new TreeSet<>();
+        Matcher name = Pattern.compile("\\b[A-Z]\\w*[a-z]\\w*\\.\\w+").matcher(code());
+        while (name.find()) {
+            used.add(name.group());
+        }
+        used.removeAll(Arrays.asList("Math.max", "Math.min", "Integer.bitCount", "Long.bitCount", "System.arraycopy"));
+        CHECK.holds("nothing else of the library is used: " + used, used.isEmpty());
     }
 }
